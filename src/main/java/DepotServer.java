@@ -125,25 +125,11 @@ public final class DepotServer {
     }
 
     public int edit(int client, int file, int list) {
-        int refusal = refusalToOpenHeld(client, file, list);
-        if (refusal != 0) {
-            return refusal;
-        }
-        records.note(now);
-        now.work(client, file).openHeld(EDIT, list);
-        return 0;
+        return openHeldFor(EDIT, client, file, list);
     }
 
     public int remove(int client, int file, int list) {
-        int refusal = refusalToOpenHeld(client, file, list);
-        if (refusal != 0) {
-            return refusal;
-        }
-        records.note(now);
-        Work work = now.work(client, file);
-        work.openHeld(DELETE, list);
-        work.text = 0;
-        return 0;
+        return openHeldFor(DELETE, client, file, list);
     }
 
     public boolean store(int client, int file, int content) {
@@ -375,23 +361,6 @@ public final class DepotServer {
 
     // ---- refusals: 0 if there is none
 
-    private int refusalToOpenHeld(int client, int file, int list) {
-        if (!isClient(client) || !isFile(file) || !isList(list)) {
-            return -1;
-        }
-        if (!isMapped(client, file)) {
-            return -2;
-        }
-        Work work = now.work(client, file);
-        if (work.have == 0) {
-            return -3;
-        }
-        if (work.isOpen()) {
-            return -4;
-        }
-        return isHindered(client, file, false) ? -5 : 0;
-    }
-
     private int refusalToJoin(int client, int from, int to) {
         if (!isMapped(client, to)) {
             return -2;
@@ -442,7 +411,29 @@ public final class DepotServer {
         return work.kind == ADD ? !isGone(file) : work.base != now.latest[file].number;
     }
 
-    // ---- parts of sync, resolve and submit
+    // ---- parts of edit, remove, sync, resolve and submit
+
+    private int openHeldFor(int kind, int client, int file, int list) {
+        if (!isClient(client) || !isFile(file) || !isList(list)) {
+            return -1;
+        }
+        if (!isMapped(client, file)) {
+            return -2;
+        }
+        Work work = now.work(client, file);
+        if (work.have == 0) {
+            return -3;
+        }
+        if (work.isOpen()) {
+            return -4;
+        }
+        if (isHindered(client, file, false)) {
+            return -5;
+        }
+        records.note(now);
+        work.openHeld(kind, list);
+        return 0;
+    }
 
     /** The revision that a sync up to a change wants; the places of the client lie ready. */
     private int wanted(int file, int upTo) {
@@ -621,25 +612,30 @@ public final class DepotServer {
             return wildcards <= MOST_WILDCARDS;
         }
 
+        /** For two sides of which each has no more wildcards than it may. */
         private static boolean haveSameWildcards(Row written, int middle) {
-            int l = nextWildcard(written, 0, middle);
-            int r = nextWildcard(written, middle + 1, written.size());
-            while (l < middle && r < written.size()) {
-                if (written.at(l) != written.at(r)) {
+            for (int n = 0; n < MOST_WILDCARDS; n++) {
+                char inLeft = wildcardOf(written, 0, middle, n);
+                char inRight = wildcardOf(written, middle + 1, written.size(), n);
+                if (inLeft != inRight) {
                     return false;
                 }
-                l = nextWildcard(written, l + 1, middle);
-                r = nextWildcard(written, r + 1, written.size());
             }
-            return l == middle && r == written.size();
+            return true;
         }
 
-        private static int nextWildcard(Row written, int start, int end) {
-            int k = start;
-            while (k < end && !isWildcard(written.at(k))) {
-                k++;
+        /** Wildcard n (from 0) of a part; the character with code 0 if it has not so many. */
+        private static char wildcardOf(Row written, int start, int end, int n) {
+            int seen = 0;
+            for (int k = start; k < end; k++) {
+                if (isWildcard(written.at(k))) {
+                    if (seen == n) {
+                        return written.at(k);
+                    }
+                    seen++;
+                }
             }
-            return k;
+            return (char) 0;
         }
     }
 
@@ -916,6 +912,9 @@ public final class DepotServer {
             kind = toKind;
             list = onList;
             base = have;
+            if (toKind == DELETE) {
+                text = 0;
+            }
         }
 
         void giveCredit(int file, int number, boolean copy) {

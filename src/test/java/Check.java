@@ -18,6 +18,13 @@ final class Check {
         due(call, got ? 1 : 0, want ? 1 : 0);
     }
 
+    /** What opened answers for what 0, 1, 2, .. */
+    void opened(DepotServer x, int client, int file, int... want) {
+        for (int what = 0; what < want.length; what++) {
+            due("opened(" + client + ", " + file + ", " + what + ")", x.opened(client, file, what), want[what]);
+        }
+    }
+
     void end() {
         if (wrong != 0) {
             System.out.println(name + ": " + wrong + " answers are not as due");

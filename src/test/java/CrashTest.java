@@ -6,6 +6,8 @@ public final class CrashTest {
         refusals();
         keptGrowsToEight();
         eachCallIsTakenBack();
+        whatCanNotBeAsked();
+        updatesAreTakenBack();
         filesLinesAndBufferStay();
         crashAfterCrash();
         lostRevisions();
@@ -86,6 +88,51 @@ public final class CrashTest {
         CHECK.due("changes after the crash", x.changes(), 2);
         CHECK.due("submit after the crash", x.submit(1, 1), 3);
         CHECK.due("the copy was kept in the credit", x.joined(1, 0), 2);
+    }
+
+    private static void whatCanNotBeAsked() {
+        DepotServer x = Check.depot(3);
+        x.add(0, 0, 0, true);
+        x.revert(0, 0);
+        x.crash(1);
+        CHECK.due("the add is exclusive again", x.add(1, 0, 0, false), -5);
+        x.submit(0, 0);
+        x.crash(1);
+        x.submit(0, 0);
+        CHECK.due("exclusive as it was opened", x.revision(0, 1, 3), 1);
+
+        DepotServer y = Check.depot(3);
+        Check.put(y, 0, 0x10);
+        Check.put(y, 1, 0x20);
+        y.join(0, 0, 1, 0);
+        Check.change(y, 0, 0, 0x30);
+        y.resolve(0, 1, 1);
+        y.crash(1);
+        CHECK.due("resolve again", y.resolve(0, 1, 1), 0);
+        CHECK.due("theirs is the revision that was owed", y.text(0, 1), 0x10);
+        y.submit(0, 0);
+        y.crash(1);
+        y.submit(0, 0);
+        CHECK.due("the credit's revision", y.joined(0, 1), 1);
+        CHECK.due("the credit was a copy", y.joined(1, 0), 2);
+    }
+
+    private static void updatesAreTakenBack() {
+        DepotServer x = Check.depot(1);
+        Check.put(x, 0, 0x10);
+        x.sync(1, -1);
+        x.edit(1, 0, 0);
+        Check.change(x, 0, 0, 0x20);
+        String before = Snapshot.of(x);
+        x.sync(1, -1);
+        back(x, "sync with an update", before);
+        x.sync(1, -1);
+        before = Snapshot.of(x);
+        x.resolve(1, 0, 0);
+        back(x, "resolve of an update", before);
+        CHECK.due("it owes the update again", x.opened(1, 0, 3), 2);
+        x.revert(1, 0);
+        back(x, "revert of a file that owes", before);
     }
 
     private static void back(DepotServer x, String call, String before) {

@@ -35,7 +35,7 @@ public final class JoinTest {
         int before = x.journal();
         CHECK.due("join into a file without revisions", x.join(1, 0, 1, 1), 1);
         CHECK.due("join is a record", x.journal(), before + 1);
-        opened(x, 1, 1, new int[] {1, 1, 0, 0, -1, 0});
+        CHECK.opened(x, 1, 1, 1, 1, 0, 0, -1, 0);
         CHECK.due("text", x.text(1, 1), 6);
         CHECK.due("resolve of a copy", x.resolve(1, 1, 0), -2);
         CHECK.due("store into it", x.store(1, 1, 7), true);
@@ -69,7 +69,7 @@ public final class JoinTest {
         x.edit(1, 1, 1);
         Check.drop(x, 0, 1);
         CHECK.due("join into a file that is gone but open for EDIT", x.join(1, 0, 1, 0), 2);
-        opened(x, 1, 1, new int[] {2, 1, 1, 0, 0, -1});
+        CHECK.opened(x, 1, 1, 2, 1, 1, 0, 0, -1);
         CHECK.due("text stays", x.text(1, 1), 6);
     }
 
@@ -79,13 +79,13 @@ public final class JoinTest {
         Check.put(x, 1, 0x01);
         Check.put(x, 2, 0x100);
         CHECK.due("join into a held file", x.join(0, 0, 1, 1), 2);
-        opened(x, 0, 1, new int[] {2, 1, 1, 0, 0, -1});
+        CHECK.opened(x, 0, 1, 2, 1, 1, 0, 0, -1);
         CHECK.due("text stays until resolved", x.text(0, 1), 0x01);
         CHECK.due("submit while it owes", x.submit(0, 1), -4);
         CHECK.due("join of another while it owes", x.join(0, 2, 1, 1), -5);
         CHECK.due("resolve 0", x.resolve(0, 1, 0), 0);
         CHECK.due("text is merged", x.text(0, 1), 0x11);
-        opened(x, 0, 1, new int[] {2, 1, 1, 0, -1, 0});
+        CHECK.opened(x, 0, 1, 2, 1, 1, 0, -1, 0);
         CHECK.due("join of another beside a credit", x.join(0, 2, 1, 1), -5);
         CHECK.due("resolve again", x.resolve(0, 1, 0), -2);
         CHECK.due("submit", x.submit(0, 1), 4);
@@ -93,7 +93,7 @@ public final class JoinTest {
         joined(x, 0, 1, 1, 0);
         x.edit(0, 1, 1);
         CHECK.due("join into an open file", x.join(0, 2, 1, 0), 2);
-        opened(x, 0, 1, new int[] {2, 1, 2, 0, 2, -1});
+        CHECK.opened(x, 0, 1, 2, 1, 2, 0, 2, -1);
         CHECK.due("resolve 1", x.resolve(0, 1, 1), 0);
         CHECK.due("text is theirs", x.text(0, 1), 0x100);
         CHECK.due("submit", x.submit(0, 1), 5);
@@ -204,18 +204,18 @@ public final class JoinTest {
         x.join(1, 0, 1, 0);
         Check.change(x, 0, 1, 0x02);
         x.sync(1, -1);
-        opened(x, 1, 1, new int[] {2, 0, 1, 2, 0, -1});
+        CHECK.opened(x, 1, 1, 2, 0, 1, 2, 0, -1);
         CHECK.due("resolve the update", x.resolve(1, 1, 0), 0);
-        opened(x, 1, 1, new int[] {2, 0, 2, 0, 0, -1});
+        CHECK.opened(x, 1, 1, 2, 0, 2, 0, 0, -1);
         CHECK.due("text", x.text(1, 1), 0x02);
         CHECK.due("submit while the join is owed", x.submit(1, 0), -4);
         CHECK.due("resolve the join", x.resolve(1, 1, 0), 0);
-        opened(x, 1, 1, new int[] {2, 0, 2, 0, -1, 0});
+        CHECK.opened(x, 1, 1, 2, 0, 2, 0, -1, 0);
         CHECK.due("text", x.text(1, 1), 0x12);
         Check.change(x, 0, 1, 0x03);
         x.sync(1, -1);
         CHECK.due("resolve the update as theirs", x.resolve(1, 1, 1), 0);
-        opened(x, 1, 1, new int[] {2, 0, 3, 0, -1, 0});
+        CHECK.opened(x, 1, 1, 2, 0, 3, 0, -1, 0);
         CHECK.due("submit", x.submit(1, 0), 5);
         // The join was resolved by a merge, the update alone as theirs: no copy.
         joined(x, 0, 1, 1, 0);
@@ -243,11 +243,5 @@ public final class JoinTest {
     private static void joined(DepotServer x, int a, int b, int there, int back) {
         CHECK.due("joined(" + a + ", " + b + ")", x.joined(a, b), there);
         CHECK.due("joined(" + b + ", " + a + ")", x.joined(b, a), back);
-    }
-
-    private static void opened(DepotServer x, int client, int file, int[] want) {
-        for (int what = 0; what < 6; what++) {
-            CHECK.due("opened(" + client + ", " + file + ", " + what + ")", x.opened(client, file, what), want[what]);
-        }
     }
 }

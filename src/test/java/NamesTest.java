@@ -13,6 +13,7 @@ public final class NamesTest {
         mapped();
         place();
         where();
+        allTwelve();
         CHECK.end();
     }
 
@@ -146,6 +147,11 @@ public final class NamesTest {
         place("abcdefghijkl", "~>abcde~fghijk", "abcdeabcdefghijklfghijk");
         place("abcdefghijkl", "~~>abcde~~fghij", "abcdeabcdefghijklfghij");
         place("a", "a//b>c", null);
+        place("ab", "~c>~", null);
+        place("abcdefghijkl", "~z>~", null);
+        place("ab", "*c>*", null);
+        place("ab", "~c~>~~", null);
+        place("a/b", "~b~a>~~", null);
         place("a/b", "~/~>/~//~/", "/a//b/");
     }
 
@@ -225,6 +231,16 @@ public final class NamesTest {
         CHECK.due("place of the lowest int", x.place(0, 0, Integer.MIN_VALUE), -1);
         CHECK.due("place of the highest int", x.place(0, 0, Integer.MAX_VALUE), -1);
         CHECK.due("place is no record", x.journal(), 1);
+    }
+
+    private static void allTwelve() {
+        DepotServer x = Check.depot(12);
+        for (int file = 0; file < 12; file++) {
+            String path = String.valueOf((char) ('a' + file));
+            CHECK.due("mapped of 12 files", x.mapped(2, file), true);
+            CHECK.due("where of 12 files", Check.where(x, 2, path), file);
+        }
+        CHECK.due("where of none of 12 files", Check.where(x, 2, "m"), -1);
     }
 
     private static void where() {

@@ -5,6 +5,7 @@ public final class SubmitTest {
     public static void main(String[] args) {
         noSuch();
         oneChangeForAList();
+        allTwelve();
         kinds();
         orderOfRefusals();
         mostRevisions();
@@ -50,6 +51,21 @@ public final class SubmitTest {
         }
         CHECK.due("submit list 0", x.submit(0, 0), 2);
         CHECK.due("change of a file on list 0", x.revision(2, 1, 0), 2);
+    }
+
+    private static void allTwelve() {
+        DepotServer x = Check.depot(12);
+        for (int file = 0; file < 12; file++) {
+            x.add(2, file, 1, false);
+            x.store(2, file, file + 1);
+        }
+        CHECK.due("submit of 12 files", x.submit(2, 1), 1);
+        CHECK.due("sync of 12 files", x.sync(1, -1), 12);
+        for (int file = 0; file < 12; file++) {
+            CHECK.due("change", x.revision(file, 1, 0), 1);
+            CHECK.due("text", x.text(1, file), file + 1);
+        }
+        CHECK.due("sync to 0", x.sync(1, 0), 12);
     }
 
     private static void kinds() {
