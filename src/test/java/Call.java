@@ -4,6 +4,7 @@ import java.util.Set;
 record Call(String name, int a, int b, int c, int d) {
     private static final Set<String> RECORDED = Set.of("view", "add", "edit", "remove", "store", "reopen",
         "revert", "sync", "join", "resolve", "submit");
+    private static final Set<String> REFUSABLE = Set.of("write", "file", "line", "crash");
     private static final Set<String> BOOLEAN = Set.of("view", "store", "reopen", "revert", "write", "mapped");
 
     boolean isRecorded() {
@@ -12,6 +13,11 @@ record Call(String name, int a, int b, int c, int d) {
 
     boolean answersBoolean() {
         return BOOLEAN.contains(name);
+    }
+
+    /** Whether this answer refuses the call; a question is never refused. */
+    boolean isRefusedBy(int answer) {
+        return (isRecorded() || REFUSABLE.contains(name)) && (answersBoolean() ? answer == 0 : answer < 0);
     }
 
     /** The answer of a depot; a boolean counts 1 or 0. */
