@@ -83,13 +83,10 @@ public final class CrashEdgesTest extends Edges {
         String[] records = {"view 0 1 -1", "add 0 2 0 false", "edit 0 0 0", "remove 0 0 0", "store 0 1 6", "reopen 0 1 0",
             "revert 0 1", "sync 0 0", "join 0 0 2 0", "resolve 0 1 1", "submit 1 0"};
         Run state = TWO.then("edit 1 0 0; join 0 0 1 0");
-        // This slot is empty: the record changes nothing, but kept is less by one without it.
-        Run lostNothing = state.then("view 2 3 -1; crash 1");
         int before = state.made().journal();
         for (String record : records) {
             answers(state.then(record), "journal", before + 1);
             answers(state.then(record).then("crash 1"), "journal", before);
-            alike(record + " is lost", lostNothing, state.then(record).then("crash 1"));
         }
         String[] others = {"write 97", "file new", "file a", "line a>b", "where 0 a", "crash 0", "journal", "changes",
             "joins", "head 0", "revision 0 1 1", "have 0 0", "text 0 0", "opened 0 0 0", "joined 0 1", "mapped 0 0",
@@ -122,6 +119,25 @@ public final class CrashEdgesTest extends Edges {
         answers(stored(4).then("crash 6"), "mapped 2 0", FALSE);
         answers(stored(4).then("crash 6"), "mapped 1 0", TRUE);
         alike("a crash of nothing", stored(20), stored(20).then("crash 0"));
+    }
+
+    @Sentence("all is as it was before the calls of these")
+    private void eachCallIsLostWhole() {
+        // Client 1 owes an update and a join, client 2 adds as exclusive, client 0 has the credit of a copy.
+        Run state = TWO.then("file d; join 1 0 1 1; edit 0 1 0; store 0 1 7; submit 0 0; sync 1 -1; add 2 2 1 true; "
+            + "join 0 1 0 0; resolve 0 0 1; view 2 1 0");
+        // Slot 3 is empty: this record changes nothing, but kept is less by one after it was lost.
+        Run lostNothing = state.then("view 2 3 -1; crash 1");
+        String[] records = {"view 0 0 -1", "view 2 1 -1", "view 1 3 0", "add 1 3 0 true", "edit 0 1 0", "edit 1 0 0",
+            "remove 0 1 1", "store 1 1 99", "store 2 2 99", "reopen 1 1 0", "reopen 2 2 0", "revert 1 1", "revert 2 2",
+            "revert 0 0", "sync 2 -1", "sync 1 0", "join 1 1 3 0", "join 0 0 1 1", "resolve 1 1 0", "resolve 1 1 1",
+            "resolve 1 1 2", "submit 0 0", "submit 2 1"};
+        for (String record : records) {
+            alike(record + " is lost", lostNothing, state.then(record).then("crash 1"));
+        }
+        Run joinOwed = state.then("resolve 1 1 1");
+        alike("the resolve of a join is lost", joinOwed.then("view 2 3 -1; view 2 3 -1; crash 2"),
+            joinOwed.then("resolve 1 1 1; submit 1 1; crash 2"));
     }
 
     @Sentence("all is as it was before the calls of these")

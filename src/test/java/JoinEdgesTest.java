@@ -181,8 +181,9 @@ public final class JoinEdgesTest extends Edges {
         // To open for EDIT is not hindered by what 'from' is.
         Run held = EXCLUSIVE.then("add 0 1 0 false; submit 0 0; sync 1 -1; edit 1 1 0");
         answers(held, "join 0 0 1 0", 2);
-        // What is open is not opened.
+        // What is open is not opened, even if it is gone and would be copied as exclusive.
         answers(held.then("edit 0 1 0"), "join 0 0 1 0", 2);
+        answers(held.then("edit 0 1 0; sync 2 -1; remove 2 1 0; submit 2 0"), "join 0 0 1 0", 2);
     }
 
     // ---- the order of the refusals

@@ -124,6 +124,9 @@ public final class OpenEdgesTest extends Edges {
         answers(SEEN.then("add 1 0 0 true; revert 1 0"), "add 0 0 0 false", 0);
         answers(SEEN.then("add 1 0 0 true; revert 1 0; add 1 0 0 false"), "add 0 0 0 false", 0);
         answers(SEEN.then("add 1 0 0 true; crash 1"), "add 0 0 0 false", 0);
+        // Client 1 once added as exclusive; what it has open now is an EDIT.
+        Run once = SEEN.then("add 1 0 0 true; revert 1 0; add 0 0 0 false; submit 0 0; sync 1 -1; edit 1 0 0");
+        answers(once, "edit 0 0 0", 0);
         // Client 1 holds a revision that was deleted since, and may edit only when nobody adds as exclusive.
         refuses(DELETED.then("add 0 0 0 true"), "edit 1 0 0", -5);
         refuses(DELETED.then("add 0 0 0 true"), "remove 1 0 0", -5);
@@ -141,6 +144,19 @@ public final class OpenEdgesTest extends Edges {
     }
 
     // ---- promise 6
+
+    @Sentence("A file is GONE if its head is 0 or that revision is deleted.")
+    private void goneOrNot() {
+        answers(SEEN, "add 2 0 0 false", 0);
+        refuses(ONE, "add 2 0 0 false", -3);
+        answers(DELETED, "add 2 0 0 false", 0);
+        Run again = DELETED.then("add 0 0 0 false; submit 0 0");
+        refuses(again, "add 2 0 0 false", -3);
+        answers(again.then("remove 0 0 0; submit 0 0"), "add 2 0 0 false", 0);
+        // A revision that is lost is not there.
+        answers(ONE.then("crash 1"), "add 2 0 0 false", 0);
+        refuses(DELETED.then("crash 1"), "add 2 0 0 false", -3);
+    }
 
     @Sentence("-2 if it is not mapped")
     private void addOfWhatIsNotMapped() {
@@ -276,6 +292,7 @@ public final class OpenEdgesTest extends Edges {
         refuses(HELD.then("edit 0 0 0; submit 0 0"), "store 0 0 7", FALSE);
         answers(HELD.then("edit 0 0 0"), "store 0 0 7", TRUE);
         answers(HELD.then("add 0 1 0 false"), "store 0 1 7", TRUE);
+        answers(HELD.then("edit 0 0 0; view 0 0 -1"), "store 0 0 7", TRUE);
     }
 
     @Sentence("CONTENTS are ints")

@@ -28,6 +28,9 @@ public final class PlaceEdgesTest extends Edges {
         place("ab", "b*>x*", null);
         place("abcdefghijkl", "abcdefghijkl>x", "x");
         place("abcdefghijkl", "abcdefghijk>x", null);
+        place("abcdefghijkl", "~z>~", null);
+        place("abcdefghijkl", "*z>*", null);
+        place("abcdefghijkl", "~l~z>~~", null);
         place("a/b", "a//b>x", null);
         place("a", "/a>x", null);
         place("a", "a/>x", null);

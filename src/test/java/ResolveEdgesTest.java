@@ -163,6 +163,11 @@ public final class ResolveEdgesTest extends Edges {
         Run copied = ONE.then("join 0 0 1 0; submit 0 0; edit 0 0 0; store 0 0 7; submit 0 0; join 0 0 1 0");
         answers(copied.then("resolve 0 1 0"), "text 0 1", 7);
         refuses(copied.then("store 0 1 6"), "resolve 0 1 0", -3);
+        // joined(0, 1) is 2 and joined(1, 0) is 1: the base is revision 2 of file 0.
+        Run second = ONE.then("edit 0 0 0; store 0 0 6; submit 0 0; join 0 0 1 0; submit 0 0; edit 0 0 0; store 0 0 7; "
+            + "submit 0 0; join 0 0 1 0");
+        answers(second.then("resolve 0 1 0"), "text 0 1", 7);
+        refuses(second.then("store 0 1 5"), "resolve 0 1 0", -3);
         // Nothing was joined before: the base is the content of revision 0.
         Run first = TWO.then("join 1 0 1 0; store 1 1 0");
         answers(first.then("resolve 1 1 0"), "text 1 1", 5);
@@ -203,6 +208,16 @@ public final class ResolveEdgesTest extends Edges {
             answers(resolved, "submit 1 0", 3);
             answers(resolved.then("submit 1 0"), "joins", 0);
         }
+        // A credit that is no copy does not become one by an update.
+        Run credited = JOIN.then("resolve 1 1 2; edit 0 1 0; submit 0 0; sync 1 -1; resolve 1 1 1; submit 1 0");
+        answers(credited, "joined 0 1", 1);
+        answers(credited, "joined 1 0", 0);
+    }
+
+    @Sentence("Refused: -1 also if how is not 0 .. 2; -2 if it is not open or owes nothing; -3 if how is 0 and a digit clashes.")
+    private void whatIsNotMapped() {
+        answers(UPDATE.then("view 1 0 -1"), "resolve 1 0 0", 0);
+        answers(JOIN.then("view 1 0 -1"), "resolve 1 1 1", 0);
     }
 
     @Sentence("for a join, it gets the credit of that file and revision, a copy if how is 1")

@@ -127,6 +127,27 @@ public final class SubmitEdgesTest extends Edges {
         refuses(run.then("edit 0 11 0"), "submit 0 0", -5);
     }
 
+    @Sentence("Submits a client's list")
+    private void onlyThisClientsTwelve() {
+        Run run = Run.of("line ~>~; view 0 0 0; view 1 0 0; view 2 0 0");
+        for (int file = 0; file < 12; file++) {
+            run = run.then("file " + (char) ('a' + file));
+            for (int client = 0; client < 3; client++) {
+                run = run.then("add " + client + " " + file + " 0 false; store " + client + " " + file + " " + client);
+            }
+        }
+        for (int client = 0; client < 3; client++) {
+            Run submitted = run.then("submit " + client + " 0");
+            for (int file = 0; file < 12; file++) {
+                answers(submitted, "head " + file, 1);
+                answers(submitted, "revision " + file + " 1 1", client);
+                for (int other = 0; other < 3; other++) {
+                    answers(submitted, "opened " + other + " " + file + " 0", other == client ? 0 : 1);
+                }
+            }
+        }
+    }
+
     @Sentence("the first that holds, in the order named, is answered")
     private void orderOfSubmit() {
         Run behindAndOwing = HELD.then("join 1 0 1 0; edit 1 0 0; edit 0 0 0; submit 0 0");
@@ -166,6 +187,7 @@ public final class SubmitEdgesTest extends Edges {
         answers(all, "revision 0 2 1", 15);
         answers(all, "revision 1 2 2", 1);
         answers(all, "revision 2 1 1", 17);
+        answers(HELD.then("edit 0 0 1; view 0 0 -1"), "submit 0 1", 3);
         Run some = HELD.then("edit 0 0 1; edit 0 1 0; edit 1 0 1; submit 0 1");
         answers(some, "head 0", 2);
         answers(some, "head 1", 1);
@@ -264,5 +286,7 @@ public final class SubmitEdgesTest extends Edges {
         answers(credited.then("submit 0 0"), "joins", 1);
         Run exclusive = SEEN.then("add 0 0 0 true; submit 0 0; remove 0 0 0; submit 0 0; add 0 0 0 false");
         answers(exclusive.then("submit 0 0; sync 1 -1; edit 0 0 0"), "edit 1 0 0", 0);
+        Run byOther = SEEN.then("add 0 0 0 true; submit 0 0; remove 0 0 0; submit 0 0; add 1 0 0 false; submit 1 0");
+        answers(byOther.then("sync 0 -1; edit 0 0 0"), "edit 1 0 0", 0);
     }
 }
